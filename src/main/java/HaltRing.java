@@ -19,7 +19,8 @@ public final class HaltRing {
 
     /** The letters of the instructions; an instruction's code is the index here plus 1, as buffer() has it. */
     private static final String INSTRUCTIONS = "adclwjzb";
-    private static final int EMPTY = 0, ADD = 1, LESS = 2, COPY = 3, LOAD = 4, STORE = 5, JUMP = 6, SLEEP = 7, BREAK = 8;
+    private static final int EMPTY = 0, ADD = 1, LESS = 2, COPY = 3, LOAD = 4, STORE = 5;
+    private static final int JUMP = 6, SLEEP = 7, BREAK = 8;
     /** How many values the second number of an instruction can have in the text, by code; 0: it has none. */
     private static final int[] SECOND = {0, 10, 0, 4, 8, 8, 16, 0, 0};
 
@@ -555,8 +556,10 @@ public final class HaltRing {
         int findFault() {
             at = 0;
             faulty = false;
+            // nothing but harts and triggers ever changes in this state: its cells and module are those of the beginning
             program.length = 0;
-            state.begin();
+            state.hartCount = 0;
+            state.triggerCount = 0;
             take('R', 1);
             for (int parts = 0; parts < MOST_LETTERS && !faulty && at < length; parts++) {
                 readPart(letters[at]);
@@ -796,14 +799,6 @@ public final class HaltRing {
             }
         }
 
-        void begin() {
-            orderCount = 0;
-            error = 0;
-            data = 0;
-            buffer[0] = EMPTY;
-            buffer[1] = EMPTY;
-        }
-
         void copyFrom(DebugModule other) {
             for (int i = 0; i < other.orderCount; i++) {
                 orders[i].copyFrom(other.orders[i]);
@@ -896,15 +891,6 @@ public final class HaltRing {
             }
             for (int t = 0; t < MOST_TRIGGERS; t++) {
                 triggers[t] = new Trigger();
-            }
-        }
-
-        void begin() {
-            module.begin();
-            hartCount = 0;
-            triggerCount = 0;
-            for (int c = 0; c < CELLS; c++) {
-                cells[c] = 0;
             }
         }
 

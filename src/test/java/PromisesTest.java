@@ -89,6 +89,8 @@ public final class PromisesTest {
   private static void fault() {
     dueFault("", 0);
     dueFault("r", 0);
+    dueFault("S", 0);
+    dueFault("Q", 0);
     dueFault("R", -9);
     dueFault("R ", 1);
     dueFault("RR", 1);
@@ -129,6 +131,10 @@ public final class PromisesTest {
     dueFault("Rha0t0pa:", 8);
     dueFault("Rha0t0q4", 7);
     dueFault("Rha0t0q300a", 10);
+    dueFault("Rha0t0q3:001", 8);
+    dueFault("Rha0t0q30:01", 9);
+    dueFault("Rha0t0q300:1", 10);
+    dueFault("Rha0t0q3/001", 8);
     dueFault("Rha0t0q30000", 11);
     dueFault("R" + "iz".repeat(16), -9);
     dueFault("R" + "iz".repeat(16) + "i", 33);
@@ -139,6 +145,13 @@ public final class PromisesTest {
     dueFault("Rha0" + "t0pa1".repeat(6) + "T", 34);
     dueFault("Rha0" + "t0pa1".repeat(7), 34);
     dueFault("R" + "ia00".repeat(16) + "ha0".repeat(4) + "t0q00001".repeat(6), -9);
+    HaltRing stale = new HaltRing();
+    Check.write(stale, "Ria00" + "x".repeat(145));
+    for (int length = 1; length < 5; length++) {
+      stale.wipe();
+      Check.write(stale, "Ria00".substring(0, length));
+      due("what was wiped does not count", stale.fault(), length == 1 ? -9 : length);
+    }
   }
 
   private static void board() {
@@ -710,6 +723,8 @@ public final class PromisesTest {
     due("nothing on its way", x.count(5), 0);
     for (int i = 0; i < 7; i++) x.send(1, 0, 0, 0);
     due("the eighth is possible, the ninth not", x.judge(2, 200000200000L), 1);
+    HaltRing counted = Check.with("Ria01ha0");
+    due("25 ticks", counted.judge(2, 125000400025L), -9);
     HaltRing far = Check.with("R" + "ia00".repeat(16) + "hp0");
     due("place 16", far.judge(2, 101000701600L), -9);
     due("without harts", new HaltRing().judge(1, 300000), 0);
@@ -775,6 +790,12 @@ public final class PromisesTest {
     for (int t = 0; t < 3; t++) {
       due("three alike", twins.share(t, true), 20);
       due("below", twins.share(t, false), 3);
+    }
+    int[][] alike = {{5, 1}, {4, 1}, {10, 3}};
+    for (int n = 4; n <= 6; n++) {
+      HaltRing many = Check.with("Ria01ha0" + "t0pa1".repeat(n));
+      due(n + " alike", many.share(n - 1, true), alike[n - 4][0]);
+      due(n + " alike, below", many.share(0, false), alike[n - 4][1]);
     }
     HaltRing chain = Check.with("Ria01ha0T0pa1t0q00001");
     due("a chain needs both", chain.share(0, true), 10);
@@ -895,6 +916,22 @@ public final class PromisesTest {
     due("pc", x.hart(0, 0), 2);
     due("again(1)", x.again(1), 1);
     due("kind", x.trigger(0, 1), 1);
+    HaltRing y = Check.with("Riziw07ha0ha0ha0");
+    y.tick(1); y.send(0, 0, 0, 0); y.send(3, 1, 2, 0); y.tick(2); y.keep(0);
+    y.again(0);
+    due("the mark", y.hart(0, 3), 1);
+    due("the cause", y.hart(0, 2), 1);
+    due("the code", y.order(1, 3), 4);
+    y.tick(2); y.clear(); y.send(4, 0, 2, 345); y.keep(0);
+    y.again(0); y.tick(4);
+    due("register and value of an order", y.hart(0, 6), 345);
+    y.send(3, 0, 2, 0); y.tick(1); y.keep(0);
+    y.again(0); y.tick(3);
+    due("what a read took", y.count(7), 345);
+    y.keep(0); y.send(3, 0, 0, 0); y.tick(4);
+    due("data then", y.count(7), 0);
+    y.again(0);
+    due("data", y.count(7), 345);
   }
 
   private static void count() {
