@@ -673,6 +673,11 @@ public final class PromisesTest {
     due("no harts", new HaltRing().crew(), 0);
     HaltRing two = Check.with("Ria01ha0ha2ha2ha0");
     due("hart 3 takes 4 ticks: 1 or 2 alike, the smaller set", two.crew(), 11);
+    // the harts 0 and 1 break at tick 3; hart 2 meets its chain at tick 3 if neither of them wrote cell 0 at tick 2
+    HaltRing fewer = Check.with("Ria01iw00ibia11il00ia11ia11ij1gha0ha0hd0T2pf1t2q00001");
+    int[] ticks = {-9, -9, -9, 3, 3, 3, 3, 3};
+    for (int set = 0; set < 8; set++) due("all(" + set + ")", fewer.all(set), ticks[set]);
+    due("a larger number with fewer harts", fewer.crew(), 4);
   }
 
   private static void judge() {
