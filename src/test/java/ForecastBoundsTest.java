@@ -183,8 +183,14 @@ public final class ForecastBoundsTest extends Bounds {
     due("the fewest ticks, not the fewest harts", Check.with("Ria01ha0ha1ha0ha1").crew(), 7);
     due("the fewest ticks, with the fewest harts", Check.with("Ria01ha1ha2ha1ha2").crew(), 3);
     due("the last alone, where the others are halted", lastRuns().crew(), 8);
-    HaltRing sixty = Check.with("Ria01ha1t0q00001");
-    due("nobody, as soon as with one", sixty.crew(), 0);
+    due("nobody, as soon as with one", Check.with("Ria01ha1t0q00001").crew(), 0);
+    due("one, a tick sooner than nobody", Check.with("Ria01ibha0").crew(), 1);
+    due("hart 1 or hart 2 for their group: the smaller set", Check.with("Ria01ha0ha2ha2ha0").crew(), 11);
+    // the harts 0 and 1 break in tick 3; hart 2 meets its chain in tick 3 if neither of them wrote cell 0 in tick 2
+    HaltRing fewer = Check.with("Ria01iw00ibia11il00ia11ia11ij1gha0ha0hd0T2pf1t2q00001");
+    int[] ticks = {NONE, NONE, NONE, 3, 3, 3, 3, 3};
+    for (int set = 0; set <= 7; set++) due("all(" + set + ")", fewer.all(set), ticks[set]);
+    due("one hart rather than two, though the set is a larger number", fewer.crew(), 4);
   }
 
   /** Four halted harts, of which the last was resumed. */
@@ -274,6 +280,16 @@ public final class ForecastBoundsTest extends Bounds {
     HaltRing useless = Check.with("Ria01ha0t0pa1t0q09991");
     dueShare("all", useless, 0, 20, 1);
     dueShare("nothing", useless, 1, 0, 1);
+    sentence("forecasts (nothing changes): what share() left out is there again, on a board with more triggers too");
+    HaltRing board = Check.with("Ria01ha0t0q09991");
+    board.share(0, true);
+    board.wipe();
+    Check.write(board, "Ria01ha0t0q09991t0q00021");
+    board.board();
+    due("halts(0)", board.halts(0), 3);
+    due("ahead(3, 0, 1)", board.ahead(3, 0, 1), 2);
+    due("all(0)", board.all(0), 3);
+    dueShare("the second", board, 1, 18, 1);
     sentence("the number left goes on from the present state");
     HaltRing left = Check.with("Ria01ha0t0pa9");
     dueShare("nine matches", left, 0, 12, 1);

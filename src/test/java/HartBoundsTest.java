@@ -26,17 +26,20 @@ public final class HartBoundsTest extends Bounds {
     dueHart(instruction, x, 0, 1, 0, 0, 0, after[0], after[1], after[2], after[3]);
   }
 
+  /** One instruction changes register r from one number to another, and leaves the others. */
+  private static void dueChange(String instruction, int r, int from, int to) {
+    int[] before = {101, 202, 303, 404};
+    int[] after = before.clone();
+    before[r] = from;
+    after[r] = to;
+    dueRegisters(instruction, before, after);
+  }
+
   private static void add() {
     sentence("a r v: register r becomes (r + v) % 1000 (v is 0 to 9)");
     int[][] rows = {{0, 0, 0}, {0, 9, 9}, {990, 9, 999}, {991, 9, 0}, {999, 9, 8}, {998, 1, 999}, {999, 1, 0}, {999, 0, 999}};
     for (int[] row : rows) {
-      for (int r = 0; r <= 3; r++) {
-        int[] before = {101, 202, 303, 404};
-        before[r] = row[0];
-        int[] after = before.clone();
-        after[r] = row[2];
-        dueRegisters("a" + r + row[1], before, after);
-      }
+      for (int r = 0; r <= 3; r++) dueChange("a" + r + row[1], r, row[0], row[2]);
     }
   }
 
@@ -44,13 +47,7 @@ public final class HartBoundsTest extends Bounds {
     sentence("d r: register r decreases by 1, but not below 0");
     int[][] rows = {{0, 0}, {1, 0}, {2, 1}, {999, 998}};
     for (int[] row : rows) {
-      for (int r = 0; r <= 3; r++) {
-        int[] before = {101, 202, 303, 404};
-        before[r] = row[0];
-        int[] after = before.clone();
-        after[r] = row[1];
-        dueRegisters("d" + r, before, after);
-      }
+      for (int r = 0; r <= 3; r++) dueChange("d" + r, r, row[0], row[1]);
     }
   }
 

@@ -21,6 +21,8 @@ public final class OrderBoundsTest extends Bounds {
     bufferAsItIsThen();
     bufferFails();
     back();
+    failedOnce();
+    onItsWay();
     end();
   }
 
@@ -444,5 +446,70 @@ public final class OrderBoundsTest extends Bounds {
     due("the error", x.count(6), 4);
     for (int order = 0; order <= 2; order++) { x.send(order, 0, 0, 0); x.tick(3); }
     due("the others change neither", x.count(6) * 1000 + x.count(7), 4007);
+  }
+
+  private static void failedOnce() {
+    sentence("3 the code with which it failed (0: it has not failed)");
+    for (int order = 0; order <= 5; order++) {
+      HaltRing x = Check.with("Ria01ha0");
+      x.send(3, 0, 3, 0); x.tick(1);
+      dueOrder("a read that failed", x, 0, 3, 0, 1, 4);
+      x.tick(1); x.clear(); x.send(0, 0, 0, 0); x.tick(2);
+      x.send(order, 0, 0, 0);
+      dueOrder("a later one has not", x, 0, order, 0, 0, 0);
+      x.tick(1);
+      dueOrder("nor when it reaches its hart", x, 0, order, 0, 1, 0);
+      x.tick(1);
+      due("no error", x.count(6), 0);
+    }
+  }
+
+  /** Two harts, of which hart 1 is halted, and a write to it on its way: of 999 to register 3. */
+  private static HaltRing writing() {
+    HaltRing x = Check.with("Ria01ha0ha0");
+    x.send(0, 1, 0, 0); x.tick(3); x.send(4, 1, 3, 999);
+    return x;
+  }
+
+  /** Asks for the end of a way that goes on in some other state than that in which it began. */
+  private static void dueWritten(String when, HaltRing x) {
+    x.tick(2);
+    dueHart(when, x, 1, 1, 2, 1, 0, 1, 0, 0, 999);
+  }
+
+  private static void onItsWay() {
+    sentence("harts, cells, triggers, module and orders are as before: the register and the value of a write");
+    HaltRing undone = writing();
+    undone.tick(5); undone.send(4, 1, 2, 5); undone.undo(); undone.undo();
+    dueWritten("after undo()", undone);
+    HaltRing kept = writing();
+    kept.keep(1); kept.tick(5); kept.send(4, 1, 2, 5); kept.again(1);
+    dueWritten("after again()", kept);
+    due("in a forecast", writing().ahead(2, 1, 7), 999);
+    due("in judge()", writing().judge(2, 102000413999L), NONE);
+    sentence("harts, cells, triggers, module and orders are as before: the value that a read took");
+    HaltRing read = halted("Ria01ha0", 0, 0, 777);
+    read.tick(1); read.send(3, 0, 2, 0); read.tick(1); read.keep(0);
+    read.tick(1);
+    due("data", read.count(7), 777);
+    read.undo();
+    due("data before", read.count(7), 0);
+    read.tick(1);
+    due("data after undo()", read.count(7), 777);
+    read.send(3, 0, 0, 0); read.tick(2); read.again(0); read.tick(1);
+    due("data after again()", read.count(7), 777);
+    sentence("harts, cells, triggers, module and orders are as before: the code with which an order failed");
+    HaltRing failed = Check.with("Ria01ha0");
+    failed.send(3, 0, 0, 0); failed.tick(1); failed.keep(0);
+    failed.tick(1); failed.clear(); failed.send(0, 0, 0, 0);
+    for (int n = 0; n < 3; n++) failed.undo();
+    dueOrder("after undo()", failed, 0, 3, 0, 1, 4);
+    due("in judge()", failed.judge(2, 101000640000L), NONE);
+    failed.tick(1);
+    due("the error after undo()", failed.count(6), 4);
+    failed.clear(); failed.send(0, 0, 0, 0); failed.again(0);
+    dueOrder("after again()", failed, 0, 3, 0, 1, 4);
+    failed.tick(1);
+    due("the error after again()", failed.count(6), 4);
   }
 }

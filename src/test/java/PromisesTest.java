@@ -513,6 +513,8 @@ public final class PromisesTest {
     String[] form = {"000", "1[0-3][0-9]", "2[0-3]0", "3[0-3][0-3]", "4[0-3][0-7]", "5[0-3][0-7]", "6[0-3][0-9]", "700", "800"};
     int previous = 0;
     for (int how = -1001; how < 1200; how++) {
+      // an object is promised to answer 512 calls
+      if (how % 400 == 0) { x = new HaltRing(); previous = 0; }
       boolean good = how >= 0 && how < 900 && String.format("%03d", how).matches(form[how / 100]);
       due("buffer(1, " + how + ")", x.buffer(1, how), good ? previous : -2);
       if (good) previous = how;

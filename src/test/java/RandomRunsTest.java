@@ -2,7 +2,9 @@ import java.util.Random;
 
 /** Long random runs of calls, each answered by the class and by the Model. */
 public final class RandomRunsTest {
-  private static final int RUNS = 2500, CALLS = 220;
+  private static final int RUNS = 5000;
+  /** An object is promised to answer 512 calls; so many are made before the last one, which may be a whole board, and a look. */
+  private static final int MOST = 512, CALLS = 340, EARLY = 200, LOOK = 138;
   private static final Check check = new Check("random runs");
 
   public static void main(String[] args) {
@@ -21,6 +23,7 @@ public final class RandomRunsTest {
     final int wild;
     /** Whether the run often goes back to its beginning, where more is still open than after many ticks. */
     final boolean fresh;
+    int calls = 0;
 
     Run(long number) {
       this.number = number;
@@ -29,7 +32,10 @@ public final class RandomRunsTest {
       fresh = random.nextInt(2) == 0;
     }
 
-    void due(String call, long got, long want) { check.due("run " + number + ": " + call, got, want); }
+    void due(String call, long got, long want) {
+      calls++;
+      check.due("run " + number + ": " + call, got, want);
+    }
 
     int below(int n) { return random.nextInt(n); }
 
@@ -45,12 +51,12 @@ public final class RandomRunsTest {
     void play() {
       if (below(12) != 0) board(text(below(10) == 0));
       due("keep", x.keep(0), m.keep(0));
-      for (int i = 0; i < CALLS; i++) {
+      while (calls < CALLS) {
         call(below(100));
         if (fresh && below(12) == 0) due("again", x.again(0), m.again(0));
-        if (below(60) == 0) look();
+        if (calls < EARLY && below(60) == 0) look();
       }
-      look();
+      if (calls <= MOST - LOOK) look();
     }
 
     void board(String text) {
@@ -78,6 +84,7 @@ public final class RandomRunsTest {
           if (s.length() == 0) s.append('R');
         }
       }
+      s.setLength(Math.min(s.length(), 155));
       return s.toString();
     }
 

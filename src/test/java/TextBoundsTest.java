@@ -1,6 +1,9 @@
 /** The boundaries of the text and the board: promises 1 to 5, and THE TEXT of the description. */
 public final class TextBoundsTest extends Bounds {
   private static final String PLACE = "abcdefghijklmnop", DIGIT = "0123456789", CODE = "adclwjzb";
+  /** A board for each kind of part. */
+  private static final String[] BOARDS = {"Ria09", "Rid3", "Ric30", "Ril37", "Riw00", "Rij0p", "Riz", "Rib", "Rhp2", "Rha0t0pa1",
+      "Rha0T0q39999"};
 
   public static void main(String[] args) {
     begin("bounds of the text");
@@ -229,19 +232,23 @@ public final class TextBoundsTest extends Bounds {
     due("the second R", faultOf("RR"), 1);
     due("one that cannot and one that is required", faultOf("Rha9t"), 3);
     sentence("or the length of the text if a further character is required");
-    for (String board : new String[] {"Ria09", "Rid3", "Ric30", "Ril37", "Riw00", "Rij0p", "Riz", "Rhp2", "Rha0t0pa1", "Rha0T0q39999"}) {
+    for (String board : BOARDS) {
       int part = Math.max(board.indexOf('t'), board.indexOf('T'));
       for (int length = 0; length < board.length(); length++) {
         boolean whole = length == 1 || length == part;
         due("fault of " + board.substring(0, length), faultOf(board.substring(0, length)), whole ? NONE : length);
       }
     }
-    sentence("the text is what was written since it was emptied");
-    HaltRing x = new HaltRing();
-    Check.write(x, "Ria01ha0");
-    x.wipe();
-    Check.write(x, "Ria");
-    due("fault()", x.fault(), 3);
+    sentence("Empties the text: what stood behind its new end does not count");
+    for (String board : BOARDS) {
+      for (int length = 0; length < board.length(); length++) {
+        HaltRing x = new HaltRing();
+        Check.write(x, board);
+        x.wipe();
+        Check.write(x, board.substring(0, length));
+        due("fault of " + board.substring(0, length), x.fault(), faultOf(board.substring(0, length)));
+      }
+    }
   }
 
   private static void board() {
